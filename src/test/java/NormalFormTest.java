@@ -190,6 +190,12 @@ public final class NormalFormTest {
         compares(desk, "4 #1 5 6 " + SIZE_14, -LARGE, 4);
         Check.due("the draft stays", desk.wipe(), 18);
         Check.reduces(desk, "3", OK, 0, "3");
+        desk.wipe();
+        Check.put(desk, "#1 10 #0 #1");
+        Check.due("equal for the first time", desk.equal(), 1);
+        Check.due("equal for the second time", desk.equal(), 1);
+        Check.due("each equal begins with no steps", desk.steps(), 1);
+        Check.reduces(desk, "3", OK, 0, "3");
         Check.due("equal of one term", desk.equal(), -RewritingDesk.SYNTAX);
         Check.due("size after SYNTAX of equal", desk.size(), 0);
         Check.due("the draft stays", desk.wipe(), 1);
