@@ -7,6 +7,9 @@ import java.nio.file.Files;
 import java.nio.file.Path;
 import java.util.ArrayList;
 import java.util.List;
+import java.util.Map;
+import java.util.Set;
+import java.util.TreeMap;
 import java.util.TreeSet;
 import java.util.regex.Matcher;
 import java.util.regex.Pattern;
@@ -28,6 +31,7 @@ public final class FaceTest {
         constants();
         members();
         source();
+        methods();
         Check.end("FaceTest");
     }
 
@@ -91,9 +95,13 @@ public final class FaceTest {
         Check.due("at most forty fields", held <= 40, true);
     }
 
-    private static void source() throws IOException {
+    private static String code() throws IOException {
         String text = Files.readString(Path.of("src/main/java/RewritingDesk.java"));
-        String code = text.replaceAll("(?s)/\\*.*?\\*/", "").replaceAll("//[^\n]*", "");
+        return text.replaceAll("(?s)/\\*.*?\\*/", "").replaceAll("//[^\n]*", "");
+    }
+
+    private static void source() throws IOException {
+        String code = code();
         for (String word : OUTSIDE) {
             boolean isWord = Character.isLetter(word.charAt(0)) && Character.isLetter(word.charAt(word.length() - 1));
             Matcher found = Pattern.compile(isWord ? "\\b" + word + "\\b" : word).matcher(code);
@@ -103,5 +111,56 @@ public final class FaceTest {
             boolean isField = line.startsWith("    private final ") && line.endsWith("];");
             Check.due("an array is made in: " + line, line.matches(".*\\bnew\\b.*") && !isField, false);
         }
+    }
+
+    /** The methods' bodies by their names; the class has no two methods of one name. */
+    private static Map<String, String> bodies() throws IOException {
+        String head = "^    (?:public|private)(?: static)? \\w+ (\\w+)\\([^)]*\\) \\{\n";
+        Matcher method = Pattern.compile("(?ms)" + head + "(.*?)^    \\}").matcher(code());
+        Map<String, String> bodies = new TreeMap<>();
+        while (method.find()) {
+            bodies.put(method.group(1), method.group(2));
+        }
+        return bodies;
+    }
+
+    private static void methods() throws IOException {
+        Map<String, String> bodies = bodies();
+        Check.due("methods found", bodies.size(), RewritingDesk.class.getDeclaredMethods().length);
+        Pattern call = Pattern.compile("\\b(" + String.join("|", bodies.keySet()) + ")\\(");
+        Map<String, Set<String>> calls = new TreeMap<>();
+        bodies.forEach((name, body) -> {
+            Check.due("at most sixty lines of " + name, body.lines().count() <= 60, true);
+            Check.due("a while loop in " + name, body.contains("while"), false);
+            calls.put(name, new TreeSet<>());
+            Matcher found = call.matcher(body);
+            while (found.find()) {
+                calls.get(name).add(found.group(1));
+                String arguments = argumentsAt(body, found.end());
+                Check.due("a call inside " + found.group(1) + "(" + arguments + ")",
+                    call.matcher(arguments).find(), false);
+            }
+        });
+        for (String name : bodies.keySet()) {
+            Check.due("calls at most six deep from " + name, depth(name, calls, 1) <= 6, true);
+        }
+    }
+
+    private static String argumentsAt(String body, int start) {
+        int inside = 1;
+        int end = start;
+        for (; inside > 0; end++) {
+            inside += body.charAt(end) == '(' ? 1 : body.charAt(end) == ')' ? -1 : 0;
+        }
+        return body.substring(start, end - 1);
+    }
+
+    /** Above the limit it goes no further, so that a recursion counts as too deep. */
+    private static int depth(String name, Map<String, Set<String>> calls, int level) {
+        int deepest = level;
+        for (String called : calls.get(name)) {
+            deepest = Math.max(deepest, level > 6 ? level : depth(called, calls, level + 1));
+        }
+        return deepest;
     }
 }
